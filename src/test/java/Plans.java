@@ -25,7 +25,7 @@ final class Plans {
     }
 
     /**
-     * Zones 0, 1, 2 in a row, joined by bays 0 and 1; stations 4 * zone .. 4 * zone + 3 in each.
+     * Zones 0, 1, 2 in a row, joined by bays 5 and 3; stations 4 * zone .. 4 * zone + 3 in each.
      * All tubes take 1 tick and hang at the root, so that each path takes 4.
      */
     static TubeDesk row() {
@@ -38,8 +38,8 @@ final class Plans {
                 desk.station(4 * zone + i, zone, i + 1);
             }
         }
-        desk.bay(0, 0, 6, 1, 5);
-        desk.bay(1, 1, 6, 2, 5);
+        desk.bay(5, 0, 6, 1, 5);
+        desk.bay(3, 1, 6, 2, 5);
         return sealed(desk);
     }
 

@@ -127,7 +127,7 @@ final class Promise09StickTest {
         desk.tick(30);
         Check.due("job(0, 0)", Plans.STUCK, desk.job(0, 0));
         Check.due("job(0, 1)", 0, desk.job(0, 1));
-        Check.due("ahead(0, 0)", 0, desk.ahead(0, 0));
+        Check.due("ahead(0, 0)", 5, desk.ahead(0, 0));
         desk.stick(0, 6, false);
         Check.due("into the bay and on", 1, desk.tick(1));
         Check.due("job(0, 1)", 1, desk.job(0, 1));

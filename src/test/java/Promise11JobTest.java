@@ -25,13 +25,13 @@ final class Promise11JobTest {
         dueJob(desk, 0, Plans.MOVING, 0, 2, 2, 3, -1);
         desk.close(1, true);
         desk.tick(2);
-        dueJob(desk, 0, Plans.IN_BAY, 0, 2, 0, 2, -1);
+        dueJob(desk, 0, Plans.IN_BAY, 5, 2, 0, 2, -1);
         desk.close(1, false);
         desk.tick(2);
         dueJob(desk, 0, Plans.MOVING, 1, 2, 1, 2, -1);
         desk.close(2, true);
         desk.tick(20);
-        dueJob(desk, 0, Plans.IN_BAY, 1, 3, 0, 1, -1);
+        dueJob(desk, 0, Plans.IN_BAY, 3, 3, 0, 1, -1);
         desk.close(2, false);
         desk.tick(4);
         dueJob(desk, 0, Plans.MOVING, 2, 3, 3, 1, -1);

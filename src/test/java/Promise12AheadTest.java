@@ -18,16 +18,16 @@ final class Promise12AheadTest {
     private static void fewerFromBayToBay() {
         TubeDesk desk = Plans.row();
         desk.send(8, 0, 0);
-        dueAhead(desk, 1, 0);
+        dueAhead(desk, 3, 5);
         desk.tick(1);
-        dueAhead(desk, 1, 0);
+        dueAhead(desk, 3, 5);
         desk.close(1, true);
         desk.tick(10);
         Check.due("in a bay", Plans.IN_BAY, desk.job(0, 0));
-        dueAhead(desk, 0);
+        dueAhead(desk, 5);
         desk.close(1, false);
         desk.tick(1);
-        dueAhead(desk, 0);
+        dueAhead(desk, 5);
         desk.tick(4);
         Check.due("in the last zone", 0, desk.job(0, 1));
         dueAhead(desk);
