@@ -64,7 +64,41 @@ final class Plans {
         return sealed(desk);
     }
 
-    private static TubeDesk sealed(TubeDesk desk) {
+    /**
+     * All that there may be: five zones with nine leaves below the root, twelve stations and six bays. All tubes
+     * take 1 tick. Station s stands in zone s % 5 at node 1 + s / 5; bays 0 .. 3 join zone 0 with zones 1 .. 4,
+     * bay 4 joins zones 1 and 2, bay 5 joins 3 and 4.
+     */
+    static TubeDesk full() {
+        TubeDesk desk = new TubeDesk();
+        for (int zone = 0; zone < 5; zone++) {
+            for (int node = 1; node <= 9; node++) {
+                desk.tube(zone, node, 0, 1);
+            }
+        }
+        for (int s = 0; s < 12; s++) {
+            desk.station(s, s % 5, 1 + s / 5);
+        }
+        for (int b = 0; b < 4; b++) {
+            desk.bay(b, 0, 9 - b, b + 1, 9);
+        }
+        desk.bay(4, 1, 8, 2, 8);
+        desk.bay(5, 3, 8, 4, 8);
+        return sealed(desk);
+    }
+
+    /** The nodes 1 .. last of a zone below its root, but for one of them. Not sealed. */
+    static TubeDesk nodesOfZone(int zone, int last, int without) {
+        TubeDesk desk = new TubeDesk();
+        for (int node = 1; node <= last; node++) {
+            if (node != without) {
+                desk.tube(zone, node, 0, 1);
+            }
+        }
+        return desk;
+    }
+
+    static TubeDesk sealed(TubeDesk desk) {
         if (desk.seal() != 0) {
             throw new AssertionError("the plan does not seal");
         }

@@ -6,6 +6,7 @@ final class Promise06SendTest {
         fortyJobs();
         wayWithoutClosedZones();
         wayOfAllIfAllAreClosed();
+        wayOfAllIfAnEndIsClosed();
         wrongArguments();
         wrongStates();
         Check.end();
@@ -68,6 +69,19 @@ final class Promise06SendTest {
         star.close(0, true);
         star.send(0, 1, 0);
         Check.due("job(0, 4)", 1, star.job(0, 4));
+    }
+
+    /** Zone 0 is its source's, zone 3 its goal's; a closed zone between them does not count then. */
+    private static void wayOfAllIfAnEndIsClosed() {
+        for (int end = 0; end <= 3; end += 3) {
+            TubeDesk desk = Plans.ring(1, 9);
+            desk.close(end, true);
+            desk.close(1, true);
+            desk.send(0, 1, 0);
+            Check.due("ahead(0, 0), closed: " + end, 0, desk.ahead(0, 0));
+            Check.due("ahead(0, 1), closed: " + end, 3, desk.ahead(0, 1));
+            Check.due("job(0, 4), closed: " + end, 3, desk.job(0, 4));
+        }
     }
 
     private static void wrongArguments() {

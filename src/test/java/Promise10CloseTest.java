@@ -6,6 +6,8 @@ final class Promise10CloseTest {
         keepsTheWayIfThereIsNone();
         plansJobsInBays();
         movingJobsKeepTheirWay();
+        stuckJobsKeepTheirWay();
+        arrivedJobsHaveNone();
         nothingIsPlannedWithoutAChange();
         bayIsNotLeftByTheSideItCame();
         wrongCalls();
@@ -122,6 +124,34 @@ final class Promise10CloseTest {
         desk.close(1, false);
         Check.due("tick(9)", 2, desk.tick(9));
         Check.due("job(0, 0)", Plans.ARRIVED, desk.job(0, 0));
+    }
+
+    private static void stuckJobsKeepTheirWay() {
+        TubeDesk desk = Plans.ring(1, 9);
+        desk.stick(0, 0, true);
+        desk.send(0, 1, 0);
+        desk.tick(2);
+        Check.due("stuck", Plans.STUCK, desk.job(0, 0));
+        desk.close(1, true);
+        dueAhead(desk, 0, 0, 3);
+        desk.send(0, 1, 0);
+        dueAhead(desk, 1, 1, 2);
+        desk.close(1, false);
+        dueAhead(desk, 1, 0, 3);
+    }
+
+    private static void arrivedJobsHaveNone() {
+        TubeDesk desk = Plans.ring(1, 9);
+        desk.send(0, 1, 0);
+        desk.tick(13);
+        Check.due("arrived", 13, desk.job(0, 5));
+        desk.close(1, true);
+        dueAhead(desk, 0, -1, -1);
+        desk.take(1);
+        desk.close(1, false);
+        dueAhead(desk, 0, -1, -1);
+        Check.due("zones left", 0, desk.job(0, 4));
+        Check.due("nothing begins", 0, desk.tick(10));
     }
 
     private static void nothingIsPlannedWithoutAChange() {
